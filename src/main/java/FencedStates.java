@@ -48,6 +48,7 @@ public final class FencedStates {
     private boolean anyRead;
     private int latestFault;
     private int latestPlace;
+    private final Reader reader;
     private final World world;
     private final World kept;
     private final Search trial;
@@ -58,6 +59,7 @@ public final class FencedStates {
     public FencedStates() {
         tape = new byte[MOST_BYTES];
         latestPlace = NONE;
+        reader = new Reader();
         Machine first = Machine.plain();
         world = new World(first);
         kept = new World(first);
@@ -100,8 +102,7 @@ public final class FencedStates {
         if (world.textCount >= MOST_TEXTS) {
             return NONE;
         }
-        Reader reader = new Reader(tape, tapeSize);
-        reader.readAll();
+        reader.readAll(tape, tapeSize);
         tapeSize = 0;
         anyRead = true;
         latestFault = reader.fault;
@@ -364,7 +365,8 @@ public final class FencedStates {
     }
 
     public int order(int i) {
-        return world.search.letterAt(i);
+        Search search = world.search;
+        return search.activities.letterAt(i, search.mode, search.machine.letters);
     }
 
     public boolean holds(int mask, int bits, int frame) {
@@ -580,7 +582,8 @@ public final class FencedStates {
 
     public int till() {
         trial.become(world.search);
-        return trial.stepsTillOver();
+        int steps = trial.goOn(MOST_TILL);
+        return trial.isOver() ? steps : NONE;
     }
 
     public int quickest() {
@@ -589,8 +592,8 @@ public final class FencedStates {
         for (int which = 0; which < world.search.machine.aims.length; which++) {
             trial.become(world.search);
             trial.tellAim(which);
-            int steps = trial.stepsTillOver();
-            if (steps != NONE && steps < fewestSteps) {
+            int steps = trial.goOn(MOST_TILL);
+            if (trial.isOver() && steps < fewestSteps) {
                 best = which;
                 fewestSteps = steps;
             }
@@ -605,8 +608,8 @@ public final class FencedStates {
             trial.begin(world.search.machine);
             trial.tellAim(world.search.aim);
             trial.mode = n;
-            int steps = trial.stepsTillOver();
-            if (steps != NONE && steps < fewestSteps) {
+            int steps = trial.goOn(MOST_TILL);
+            if (trial.isOver() && steps < fewestSteps) {
                 best = n;
                 fewestSteps = steps;
             }
@@ -702,10 +705,12 @@ public final class FencedStates {
 
         /** The STATES of a CUBE, as if there were all six LETTERS. */
         static long statesOf(int cube) {
+            int mask = maskOf(cube);
+            int bits = bitsOf(cube);
             long set = -1L;
             for (int letter = 0; letter < LETTER_SETS.length; letter++) {
-                if ((maskOf(cube) >> letter & 1) != 0) {
-                    boolean one = (bitsOf(cube) >> letter & 1) != 0;
+                if ((mask >> letter & 1) != 0) {
+                    boolean one = (bits >> letter & 1) != 0;
                     set &= one ? LETTER_SETS[letter] : ~LETTER_SETS[letter];
                 }
             }
@@ -1214,13 +1219,28 @@ public final class FencedStates {
             bump = bump * 0.001f;
         }
 
-        boolean comesFirst(int one, int other, int mode) {
-            float its = valueOf(one);
-            float that = valueOf(other);
-            if (mode == 1 || its == that) {
-                return one < other;
+        /** The i-th of LETTERS in their ORDER, or NONE. */
+        int letterAt(int i, int mode, int letters) {
+            for (int letter = 0; letter < letters && letter < values.length; letter++) {
+                if (rankOf(letter, mode, letters) == i) {
+                    return letter;
+                }
             }
-            return mode == 0 ? its < that : its > that;
+            return NONE;
+        }
+
+        private int rankOf(int letter, int mode, int letters) {
+            float its = valueOf(letter);
+            int rank = 0;
+            for (int other = 0; other < letters && other < values.length; other++) {
+                float that = values[other];
+                boolean first = other < letter;
+                if (mode != 1 && that != its) {
+                    first = mode == 0 ? that < its : that > its;
+                }
+                rank += first ? 1 : 0;
+            }
+            return rank;
         }
     }
 
@@ -1353,30 +1373,11 @@ public final class FencedStates {
             return Sets.lowest(statesWithin(frame) & machine.before(one) & ~one);
         }
 
-        int letterAt(int i) {
-            for (int letter = 0; letter < machine.letters; letter++) {
-                if (rankOf(letter) == i) {
-                    return letter;
-                }
-            }
-            return NONE;
-        }
-
-        private int rankOf(int letter) {
-            int rank = 0;
-            for (int other = 0; other < machine.letters; other++) {
-                if (other != letter && activities.comesFirst(other, letter, mode)) {
-                    rank++;
-                }
-            }
-            return rank;
-        }
-
         int widen(int state, int level, boolean counted) {
             int cube = Cubes.cubeOf(machine.states - 1, state);
             long some = statesWithin(level - 1);
             for (int i = 0; i < machine.letters; i++) {
-                int wider = Cubes.without(cube, letterAt(i));
+                int wider = Cubes.without(cube, activities.letterAt(i, mode, machine.letters));
                 if (!hasInit(wider)) {
                     if (counted) {
                         asked++;
@@ -1391,26 +1392,17 @@ public final class FencedStates {
         int goOn(int most) {
             int n = 0;
             while (n < most && !isOver()) {
-                goOnce();
+                if (phase == SEEKS) {
+                    seek();
+                } else if (phase == OBLIGES) {
+                    oblige();
+                } else {
+                    push();
+                }
                 n++;
             }
+            gone += n;
             return n;
-        }
-
-        int stepsTillOver() {
-            int n = goOn(MOST_TILL);
-            return isOver() ? n : NONE;
-        }
-
-        private void goOnce() {
-            gone++;
-            if (phase == SEEKS) {
-                seek();
-            } else if (phase == OBLIGES) {
-                oblige();
-            } else {
-                push();
-            }
         }
 
         private void seek() {
@@ -1532,7 +1524,7 @@ public final class FencedStates {
             long others = claims.unionBut(i);
             int cube = claims.cubeAt(i);
             for (int n = 0; n < machine.letters; n++) {
-                int wider = Cubes.without(cube, letterAt(n));
+                int wider = Cubes.without(cube, activities.letterAt(n, mode, machine.letters));
                 if (judgementOf(others | Cubes.statesOf(wider)) == 0) {
                     cube = wider;
                 }
@@ -1619,9 +1611,13 @@ public final class FencedStates {
         }
 
         void become(World other) {
-            System.arraycopy(other.texts, 0, texts, 0, texts.length);
+            for (int i = 0; i < texts.length && i < other.texts.length; i++) {
+                texts[i] = other.texts[i];
+            }
             textCount = other.textCount;
-            System.arraycopy(other.past, 0, past, 0, past.length);
+            for (int i = 0; i < past.length && i < other.past.length; i++) {
+                past[i] = other.past[i];
+            }
             pastCount = other.pastCount;
             search.become(other.search);
         }
@@ -1642,7 +1638,9 @@ public final class FencedStates {
         /** A new object each time, as THE IMAGE may yet have the one that is pushed out. */
         void remember() {
             if (pastCount >= past.length) {
-                System.arraycopy(past, 1, past, 0, past.length - 1);
+                for (int i = 1; i < past.length; i++) {
+                    past[i - 1] = past[i];
+                }
                 pastCount = past.length - 1;
             }
             Search now = new Search(search.machine);
@@ -1666,7 +1664,7 @@ public final class FencedStates {
         }
     }
 
-    /** Reads a TEXT, TOKEN by TOKEN, up to its end or its first FAULT. */
+    /** Reads a TEXT: all its TOKENS first, then CLAUSE by CLAUSE up to the end or the first FAULT. */
     private static final class Reader {
         private static final int THE_END = 0;
         private static final int NO_TOKEN = 1;
@@ -1680,13 +1678,15 @@ public final class FencedStates {
         private static final int NEXT_WORD = 9;
         /** Above every NUMBER that is told, so that long ones need not be held whole. */
         private static final int BIG = 1000;
+        /** What joins the parts of a FORM, the loosest first. */
+        private static final String JOINTS = "|^&";
+        private static final String SIGNS = "()!&^|;";
 
-        private final byte[] bytes;
-        private final int size;
-        private int behind;
-        private int kind;
-        private int place;
-        private int value;
+        private final int[] kinds;
+        private final int[] values;
+        private final int[] places;
+        private int count;
+        private int now;
         int fault;
         int faultPlace;
 
@@ -1698,20 +1698,32 @@ public final class FencedStates {
         private int nextTold;
         /** For each LETTER and INPUT the STATES whose SUCCESSOR has it as 1. */
         private final long[] nexts;
-        private boolean inNext;
+        /** The INPUT that a FORM is read for, NONE but in next. */
         private int input;
 
-        Reader(byte[] bytes, int size) {
-            this.bytes = bytes;
-            this.size = Math.min(size, bytes.length);
-            this.faultPlace = NONE;
-            this.letters = 3;
-            this.init = 1L;
-            this.bads = new long[MOST_AIMS];
-            this.nexts = new long[MOST_LETTERS * INPUTS];
-            for (int i = 0; i < nexts.length; i++) {
+        Reader() {
+            kinds = new int[MOST_BYTES + 1];
+            values = new int[MOST_BYTES + 1];
+            places = new int[MOST_BYTES + 1];
+            bads = new long[MOST_AIMS];
+            nexts = new long[MOST_LETTERS * INPUTS];
+        }
+
+        private void forget() {
+            count = 0;
+            now = 0;
+            fault = 0;
+            faultPlace = NONE;
+            letters = 3;
+            initTold = false;
+            init = 1L;
+            badCount = 0;
+            Arrays.fill(bads, 0L);
+            nextTold = 0;
+            for (int i = 0; i < nexts.length && i / INPUTS < LETTER_SETS.length; i++) {
                 nexts[i] = LETTER_SETS[i / INPUTS];
             }
+            input = NONE;
         }
 
         Machine machine() {
@@ -1726,213 +1738,58 @@ public final class FencedStates {
             return new Machine(letters, successors, init, Arrays.copyOf(bads, Math.max(1, badCount)));
         }
 
-        void readAll() {
-            takeToken();
-            if (kind == LETTERS_WORD) {
+        void readAll(byte[] bytes, int size) {
+            forget();
+            takeTokens(bytes, Math.min(size, bytes.length));
+            if (kinds[now] == LETTERS_WORD) {
                 readLetters();
+                takeSign(';');
             }
-            for (int n = 0; n < MOST_BYTES && kind != THE_END; n++) {
-                readClause();
-            }
-        }
-
-        private void readLetters() {
-            takeToken();
-            if (kind != NUMBER) {
-                fail(1);
-            } else if (value < 1 || value > MOST_LETTERS) {
-                fail(2);
-            } else {
-                letters = value;
-                takeToken();
+            for (int n = 0; n < MOST_BYTES && kinds[now] != THE_END; n++) {
+                switch (kinds[now]) {
+                    case INIT_WORD:
+                        readInit();
+                        break;
+                    case BAD_WORD:
+                        readBad();
+                        break;
+                    case NEXT_WORD:
+                        readNext();
+                        break;
+                    default:
+                        fail(1);
+                        break;
+                }
                 takeSign(';');
             }
         }
 
-        private void readClause() {
-            switch (kind) {
-                case INIT_WORD:
-                    readInit();
-                    break;
-                case BAD_WORD:
-                    readBad();
-                    break;
-                case NEXT_WORD:
-                    readNext();
-                    break;
-                default:
-                    fail(1);
-                    break;
-            }
-            takeSign(';');
-        }
+        // ---- TOKENS
 
-        private void readInit() {
-            if (initTold) {
-                fail(4);
-                return;
-            }
-            initTold = true;
-            takeToken();
-            init = readForm(0);
-        }
-
-        private void readBad() {
-            if (badCount >= bads.length) {
-                fail(4);
-                return;
-            }
-            takeToken();
-            bads[badCount] = readForm(0);
-            badCount++;
-        }
-
-        private void readNext() {
-            takeToken();
-            int letter = value;
-            if (kind != LETTER) {
-                fail(1);
-            } else if (letter >= letters) {
-                fail(3);
-            } else if ((nextTold >> letter & 1) != 0) {
-                fail(4);
-            } else {
-                nextTold |= 1 << letter;
-                readForAllInputs(letter);
-            }
-        }
-
-        /** The FORM is read once for each INPUT, from the same place on. */
-        private void readForAllInputs(int letter) {
-            int start = behind;
-            inNext = true;
-            for (input = 0; input < INPUTS && fault == 0; input++) {
-                behind = start;
-                takeToken();
-                nexts[letter * INPUTS + input] = readForm(0);
-            }
-            inNext = false;
-        }
-
-        /** A FORM: the STATES in which it is 1. Depth: how many of ! and ( are open around it. */
-        private long readForm(int depth) {
-            long set = readOdd(depth);
-            for (int n = 0; n < MOST_BYTES && isSign('|'); n++) {
-                takeToken();
-                set |= readOdd(depth);
-            }
-            return set;
-        }
-
-        private long readOdd(int depth) {
-            long set = readBoth(depth);
-            for (int n = 0; n < MOST_BYTES && isSign('^'); n++) {
-                takeToken();
-                set ^= readBoth(depth);
-            }
-            return set;
-        }
-
-        private long readBoth(int depth) {
-            long set = readOne(depth);
-            for (int n = 0; n < MOST_BYTES && isSign('&'); n++) {
-                takeToken();
-                set &= readOne(depth);
-            }
-            return set;
-        }
-
-        private long readOne(int depth) {
-            if (isSign('!') || isSign('(')) {
-                return readOpen(depth);
-            }
-            long set = readPlain();
-            takeToken();
-            return set;
-        }
-
-        private long readOpen(int depth) {
-            if (depth >= MOST_OPEN) {
-                fail(6);
-                return 0L;
-            }
-            boolean not = isSign('!');
-            takeToken();
-            if (not) {
-                return ~readOne(depth + 1);
-            }
-            long set = readForm(depth + 1);
-            takeSign(')');
-            return set;
-        }
-
-        private long readPlain() {
-            switch (kind) {
-                case LETTER:
-                    if (value < letters) {
-                        return LETTER_SETS[value];
+        private void takeTokens(byte[] bytes, int size) {
+            int at = 0;
+            while (at < size) {
+                int one = bytes[at];
+                if (isSmall(one)) {
+                    at = takeWord(bytes, at, size);
+                } else if (isDigit(one)) {
+                    at = takeNumber(bytes, at, size);
+                } else {
+                    if (one != 32 && one != 10) {
+                        addToken(SIGNS.indexOf((char) (one & 255)) >= 0 ? SIGN : NO_TOKEN, one, at);
                     }
-                    fail(3);
-                    break;
-                case INPUT:
-                    if (inNext) {
-                        return -(long) (input >> value & 1);
-                    }
-                    fail(5);
-                    break;
-                case NUMBER:
-                    if (value <= 1) {
-                        return -(long) value;
-                    }
-                    fail(2);
-                    break;
-                default:
-                    fail(1);
-                    break;
+                    at++;
+                }
             }
-            return 0L;
+            addToken(THE_END, 0, size);
         }
 
-        private boolean isSign(char sign) {
-            return kind == SIGN && value == sign;
-        }
-
-        private void takeSign(char sign) {
-            if (isSign(sign)) {
-                takeToken();
-            } else {
-                fail(1);
-            }
-        }
-
-        /** The first FAULT alone counts; behind it there are no more TOKENS, so that all reading ends. */
-        private void fail(int number) {
-            if (fault == 0) {
-                fault = number;
-                faultPlace = place;
-            }
-            kind = THE_END;
-        }
-
-        private void takeToken() {
-            if (fault != 0) {
-                return;
-            }
-            while (behind < size && (bytes[behind] == 32 || bytes[behind] == 10)) {
-                behind++;
-            }
-            place = behind;
-            value = 0;
-            if (behind >= size) {
-                kind = THE_END;
-            } else if (isSmall(bytes[behind])) {
-                takeWord();
-            } else if (isDigit(bytes[behind])) {
-                takeNumber();
-            } else {
-                value = bytes[behind];
-                kind = isSignByte(value) ? SIGN : NO_TOKEN;
-                behind++;
+        private void addToken(int kind, int value, int place) {
+            if (count < kinds.length) {
+                kinds[count] = kind;
+                values[count] = value;
+                places[count] = place;
+                count++;
             }
         }
 
@@ -1944,57 +1801,224 @@ public final class FencedStates {
             return one >= '0' && one <= '9';
         }
 
-        private static boolean isSignByte(int one) {
-            return one == '(' || one == ')' || one == '!' || one == '&' || one == '^' || one == '|' || one == ';';
+        private int takeNumber(byte[] bytes, int from, int size) {
+            int value = 0;
+            int to = from;
+            while (to < size && isDigit(bytes[to])) {
+                value = Math.min(BIG, value * 10 + bytes[to] - '0');
+                to++;
+            }
+            addToken(NUMBER, value, from);
+            return to;
         }
 
-        private void takeNumber() {
-            kind = NUMBER;
-            while (behind < size && isDigit(bytes[behind])) {
-                value = Math.min(BIG, value * 10 + bytes[behind] - '0');
-                behind++;
+        private int takeWord(byte[] bytes, int from, int size) {
+            int to = from;
+            while (to < size && isSmall(bytes[to])) {
+                to++;
             }
-        }
-
-        private void takeWord() {
-            int first = bytes[behind];
-            while (behind < size && isSmall(bytes[behind])) {
-                behind++;
-            }
-            if (behind - place > 1) {
-                kind = kindOfWord();
+            int first = bytes[from];
+            if (to - from > 1) {
+                addToken(kindOfWord(bytes, from, to), 0, from);
             } else if (first < 'a' + MOST_LETTERS) {
-                kind = LETTER;
-                value = first - 'a';
+                addToken(LETTER, first - 'a', from);
             } else {
-                kind = first == 'x' || first == 'y' ? INPUT : NO_TOKEN;
-                value = first - 'x';
+                addToken(first == 'x' || first == 'y' ? INPUT : NO_TOKEN, first - 'x', from);
             }
+            return to;
         }
 
-        private int kindOfWord() {
-            if (isWord("letters")) {
+        private static int kindOfWord(byte[] bytes, int from, int to) {
+            if (isWord("letters", bytes, from, to)) {
                 return LETTERS_WORD;
             }
-            if (isWord("init")) {
+            if (isWord("init", bytes, from, to)) {
                 return INIT_WORD;
             }
-            if (isWord("bad")) {
+            if (isWord("bad", bytes, from, to)) {
                 return BAD_WORD;
             }
-            return isWord("next") ? NEXT_WORD : NO_TOKEN;
+            return isWord("next", bytes, from, to) ? NEXT_WORD : NO_TOKEN;
         }
 
-        private boolean isWord(String word) {
-            if (word.length() != behind - place || behind > size) {
+        private static boolean isWord(String word, byte[] bytes, int from, int to) {
+            if (word.length() != to - from || to > bytes.length) {
                 return false;
             }
             for (int i = 0; i < word.length(); i++) {
-                if (bytes[place + i] != word.charAt(i)) {
+                if (bytes[from + i] != word.charAt(i)) {
                     return false;
                 }
             }
             return true;
+        }
+
+        // ---- CLAUSES
+
+        private void goOn() {
+            if (now + 1 < count) {
+                now++;
+            }
+        }
+
+        private boolean isSign(char sign) {
+            return kinds[now] == SIGN && values[now] == sign;
+        }
+
+        private void takeSign(char sign) {
+            if (isSign(sign)) {
+                goOn();
+            } else {
+                fail(1);
+            }
+        }
+
+        /** The first FAULT alone counts; it leaves the end as the one TOKEN there is, so that all reading ends. */
+        private void fail(int number) {
+            if (fault == 0) {
+                fault = number;
+                faultPlace = places[now];
+            }
+            if (count > 0) {
+                now = count - 1;
+            }
+        }
+
+        private void readLetters() {
+            goOn();
+            int many = values[now];
+            if (kinds[now] != NUMBER) {
+                fail(1);
+            } else if (many < 1 || many > MOST_LETTERS) {
+                fail(2);
+            } else {
+                letters = many;
+                goOn();
+            }
+        }
+
+        private void readInit() {
+            if (initTold) {
+                fail(4);
+                return;
+            }
+            initTold = true;
+            goOn();
+            init = readForm(0, 0);
+        }
+
+        private void readBad() {
+            if (badCount >= bads.length) {
+                fail(4);
+                return;
+            }
+            goOn();
+            bads[badCount] = readForm(0, 0);
+            badCount++;
+        }
+
+        private void readNext() {
+            goOn();
+            int letter = values[now];
+            if (kinds[now] != LETTER) {
+                fail(1);
+            } else if (letter >= letters) {
+                fail(3);
+            } else if ((nextTold >> letter & 1) != 0) {
+                fail(4);
+            } else {
+                nextTold |= 1 << letter;
+                goOn();
+                readForInputs(letter * INPUTS);
+            }
+        }
+
+        /** The FORM is read once for each INPUT, from the same TOKEN on. */
+        private void readForInputs(int first) {
+            int start = now;
+            for (input = 0; input < INPUTS && first + input < nexts.length && fault == 0; input++) {
+                now = start;
+                nexts[first + input] = readForm(0, 0);
+            }
+            input = NONE;
+        }
+
+        /**
+         * The STATES in which a FORM is 1, or a part of it that is joined by this joint or tighter ones.
+         * Depth: how many of ! and ( are open around it.
+         */
+        private long readForm(int joint, int depth) {
+            if (joint >= JOINTS.length()) {
+                return readOne(depth);
+            }
+            long set = readForm(joint + 1, depth);
+            for (int n = 0; n < MOST_BYTES && isSign(JOINTS.charAt(joint)); n++) {
+                goOn();
+                long other = readForm(joint + 1, depth);
+                switch (joint) {
+                    case 0:
+                        set |= other;
+                        break;
+                    case 1:
+                        set ^= other;
+                        break;
+                    default:
+                        set &= other;
+                        break;
+                }
+            }
+            return set;
+        }
+
+        private long readOne(int depth) {
+            boolean not = isSign('!');
+            if (!not && !isSign('(')) {
+                return readPlain();
+            }
+            if (depth >= MOST_OPEN) {
+                fail(6);
+                return 0L;
+            }
+            goOn();
+            if (not) {
+                return ~readOne(depth + 1);
+            }
+            long set = readForm(0, depth + 1);
+            takeSign(')');
+            return set;
+        }
+
+        private long readPlain() {
+            int kind = kinds[now];
+            int value = values[now];
+            if (kind == LETTER && value < letters && value < LETTER_SETS.length) {
+                goOn();
+                return LETTER_SETS[value];
+            }
+            if (kind == INPUT && input != NONE) {
+                goOn();
+                return -(long) (input >> value & 1);
+            }
+            if (kind == NUMBER && value <= 1) {
+                goOn();
+                return -(long) value;
+            }
+            fail(faultOf(kind));
+            return 0L;
+        }
+
+        /** Which FAULT a TOKEN is where a LETTER or its like has to stand, and it is none that can. */
+        private static int faultOf(int kind) {
+            switch (kind) {
+                case NUMBER:
+                    return 2;
+                case LETTER:
+                    return 3;
+                case INPUT:
+                    return 5;
+                default:
+                    return 1;
+            }
         }
     }
 }

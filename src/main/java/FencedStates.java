@@ -844,10 +844,12 @@ public final class FencedStates {
         /** All STATES that have a SUCCESSOR in a set. */
         long before(long set) {
             long found = 0L;
-            for (int state = 0; state < leading.length; state++) {
-                if (Sets.has(set, state)) {
+            long rest = set;
+            for (int state = 0; state < leading.length && rest != 0L; state++) {
+                if ((rest & 1L) != 0L) {
                     found |= leading[state];
                 }
+                rest >>>= 1;
             }
             return found;
         }
@@ -855,10 +857,14 @@ public final class FencedStates {
         /** All SUCCESSORS of a set by some INPUTS. */
         long after(long set, int inputs) {
             long found = 0L;
-            for (int i = 0; i < successors.length; i++) {
-                if (Sets.has(set, i / INPUTS) && (inputs >> i % INPUTS & 1) != 0) {
-                    found |= 1L << successors[i];
+            long rest = set;
+            for (int state = 0; state < states && rest != 0L; state++) {
+                for (int input = 0; input < INPUTS && (rest & 1L) != 0L; input++) {
+                    if ((inputs >> input & 1) != 0) {
+                        found |= 1L << next(state, input);
+                    }
                 }
+                rest >>>= 1;
             }
             return found;
         }
@@ -1024,16 +1030,6 @@ public final class FencedStates {
                 }
             }
             return union;
-        }
-
-        int countLyingIn(int cube, int before) {
-            int count = 0;
-            for (int i = 0; i < before && i < size; i++) {
-                if (Cubes.liesIn(cubes[i], cube)) {
-                    count++;
-                }
-            }
-            return count;
         }
 
         /** A CUBE is the last one of a FRAME; all of FRAMES up to there that LIE IN it are out. */
@@ -1473,8 +1469,7 @@ public final class FencedStates {
                 int cube = frames.cubeAt(place);
                 asked++;
                 if (keepsOut(cube, some)) {
-                    // those ahead that go with it would leave this place too far on
-                    place -= frames.countLyingIn(cube, place);
+                    // none of those passed lies in it, as none could be led into then: the next one is here
                     frames.putLast(at + 1, cube);
                     moved++;
                 } else {

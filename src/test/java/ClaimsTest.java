@@ -132,6 +132,12 @@ final class ClaimsTest {
         due.is("fewest(1)", y.fewest(1), 1);
         due.is("chosen(1)", y.chosen(1), 1);
         due.is("inside(1)", y.inside(1), 1);
+        // 2 and 3 alone are led into from 1
+        y.claim(2, 2);
+        y.claim(1, 1);
+        due.is("spare", y.spare(0), 1);
+        due.is("fewest", y.fewest(0), 1);
+        due.is("chosen", y.chosen(0), 2);
         // 12 of which 10 are needed, then 11 of which 9 are
         FencedStates z = Due.of("letters 6;bad f&!e|f&e&!d&!c;");
         for (int n = 0; n < 12; n++) {

@@ -86,6 +86,16 @@ final class ForetoldTest {
             seen[best]++;
         }
         due.is("not always 0", seen[1] + seen[2] > 0, true);
+        // 400 STEPS by MODE 2, more by the others
+        FencedStates edge = Due.of("letters 5;next a a^1;next b b^a&x;next c c^a&b&x;next d d^a&b&c&x;"
+            + "next e e^a&b&c&d;bad a&b&c&d&e;");
+        due.is("till by MODE 0", edge.till(), -1);
+        due.is("quickest by MODE 0", edge.quickest(), -1);
+        due.is("bestMode", edge.bestMode(), 2);
+        edge.mode(2);
+        due.is("till by MODE 2", edge.till(), 400);
+        due.is("quickest by MODE 2", edge.quickest(), 0);
+        due.is("step(500)", edge.step(500), 400);
         // THE AIM as it is
         FencedStates x = Due.of("letters 6;bad 0;" + COUNTER.substring(10));
         due.is("bestMode of none", x.bestMode(), 0);
@@ -136,6 +146,13 @@ final class ForetoldTest {
             x.drawn(n, 6);
             x.step(20);
         }
+        due.is("and once more", x.back(), 1);
+        look(x);
+        for (int n = 3; n >= 0; n--) {
+            due.is("undo", x.undo(), n);
+        }
+        due.is("the MACHINE told at first", x.is(0), 3);
+        due.is("undo", x.undo(), -1);
         due.is("and once more", x.back(), 1);
         look(x);
         due.is("undo", x.undo(), 3);

@@ -32,11 +32,23 @@ final class TextsTest {
         due.is("feed up to 300", x.feed(0x20202020, 0x20202020, 0x20202020, 0x20202020, 0x0a0a0a0a), 300);
         due.is("text of blanks", x.text(), 0);
         due.is("about(3)", x.about(3), 0);
+        cut("letters 39;", 9);
+        cut("bad ab", 5);
         FencedStates y = new FencedStates();
         y.feed(0x62616420, 0x3b612020, 0, 0, 0);
         y.end(8);
         due.is("the highest byte first", y.text(), -1);
         due.is("place", y.fault(1), 4);
+    }
+
+    /** Nothing is read of what lay behind the end. */
+    private static void cut(String text, int size) {
+        FencedStates x = new FencedStates();
+        Due.feed(x, text);
+        due.is("end", x.end(size), size);
+        due.is("text", x.text(), -1);
+        due.is("fault(0)", x.fault(0), 1);
+        due.is("fault(1)", x.fault(1), size);
     }
 
     private static void texts() {
@@ -103,6 +115,17 @@ final class TextsTest {
         faulty("next 1 a;", 1, 5);
         faulty("next init a;", 1, 5);
         faulty("next ab a;", 1, 5);
+        faulty("next ;", 1, 5);
+        faulty("letters ;", 1, 8);
+        faulty("mad a;", 1, 0);
+        faulty("knit a;", 1, 0);
+        faulty("text a b;", 1, 0);
+        faulty("betters 3;", 1, 0);
+        faulty("bad az;", 1, 4);
+        faulty(" ".repeat(297) + "bad", 1, 300);
+        faulty(" ".repeat(294) + "bad a;", 0, -1);
+        faulty("bad a" + "&a".repeat(147) + ";", 0, -1);
+        faulty("bad a" + "&a".repeat(147) + "&", 1, 300);
         faulty("letters", 1, 7);
         faulty("letters a;", 1, 8);
         faulty("letters 3", 1, 9);
@@ -120,6 +143,8 @@ final class TextsTest {
         faulty("letters 4294967297;", 2, 8);
         faulty("letters 18446744073709551617;", 2, 8);
         faulty("letters 16;", 2, 8);
+        faulty("letters 9;", 2, 8);
+        faulty("letters 39;", 2, 8);
         faulty("letters 006;", 0, -1);
         faulty("letters6;bad f;", 0, -1);
         faulty("letters 1;bad a;", 0, -1);

@@ -1,14 +1,28 @@
 /** Counts and prints answers that are not as due; each test ends by it. */
 final class Due {
+    /** What no STATE, FRAME, CUBE, place or number of anything is, however large the MACHINE. */
+    static final int[] OUTSIDE = {Integer.MIN_VALUE, Integer.MIN_VALUE + 1, -65536, -64, -3, -2,
+        1 << 16, 1 << 30, Integer.MAX_VALUE - 1, Integer.MAX_VALUE};
+
     private int wrong = 0;
     private int asked = 0;
+    private String sentence = "";
+
+    /**
+     * What comes next tests this sentence, or part of one, of the document: of a promise, or of what stands under
+     * 'Terms' (0). SentencesTest looks it up.
+     */
+    void sentence(int promise, String words) {
+        sentence = promise == 0 ? words : "promise " + promise + ": " + words;
+    }
 
     void is(String call, long got, long want) {
         asked++;
         if (got != want) {
             wrong++;
             if (wrong <= 50) {
-                System.out.println(call + " answered " + got + ", due is " + want);
+                System.out.println(call + " answered " + got + ", due is " + want
+                    + (sentence.isEmpty() ? "" : " (" + sentence + ")"));
             }
         }
     }

@@ -55,6 +55,7 @@ public final class FencedStates {
     private final CubeRow sparing;
     private final Chooser chooser;
     private final int[] path;
+    private final long[] fars;
 
     public FencedStates() {
         tape = new byte[MOST_BYTES];
@@ -67,6 +68,7 @@ public final class FencedStates {
         sparing = new CubeRow();
         chooser = new Chooser();
         path = new int[MOST_PATH];
+        fars = new long[MOST_STATES];
     }
 
     // ---- the tape and its TEXTS
@@ -237,7 +239,7 @@ public final class FencedStates {
         if (!machine.hasState(state)) {
             return NONE;
         }
-        return countOrState(machine.leading[state], i);
+        return countOrState(machine.leadingTo(state), i);
     }
 
     /** How many STATES a set has (i NONE), or the i-th of them. */
@@ -423,7 +425,7 @@ public final class FencedStates {
 
     public int shortest(int i, int what) {
         Search search = world.search;
-        return pathPart(search.machine.fillShortest(search.aimStates(), path), i, what);
+        return pathPart(search.machine.fillShortest(search.aimStates(), fars, path), i, what);
     }
 
     public int detour() {
@@ -432,7 +434,7 @@ public final class FencedStates {
             return NONE;
         }
         int traced = search.obligations.fillChain(path);
-        return traced - search.machine.fillShortest(search.aimStates(), path);
+        return traced - search.machine.fillShortest(search.aimStates(), fars, path);
     }
 
     public int nearest() {
@@ -771,7 +773,7 @@ public final class FencedStates {
         final long init;
         final long[] aims;
         private final int[] successors;
-        final long[] leading;
+        private final long[] leading;
 
         /** Successors: four for each STATE, one for each INPUT. */
         Machine(int letters, int[] successors, long init, long[] aims) {
@@ -839,6 +841,11 @@ public final class FencedStates {
                 }
             }
             return NONE;
+        }
+
+        /** All STATES that have this one as a SUCCESSOR. */
+        long leadingTo(int state) {
+            return state >= 0 && state < leading.length ? leading[state] : 0L;
         }
 
         /** All STATES that have a SUCCESSOR in a set. */
@@ -917,16 +924,30 @@ public final class FencedStates {
             return come;
         }
 
-        /** Puts THE SHORTEST into a row: how many STATES it has. */
-        int fillShortest(long goal, int[] row) {
-            int steps = stepsBetween(init, goal);
+        /** Puts the STATES that are FAR by 0, by 1 and so on into a row, up to the nearest of INIT: how FAR, or NONE. */
+        private int fillFars(long goal, long[] row) {
+            long come = goal;
+            long fresh = goal;
+            for (int n = 0; n < row.length && fresh != 0L; n++) {
+                row[n] = fresh;
+                if ((fresh & init) != 0L) {
+                    return n;
+                }
+                fresh = before(fresh) & ~come;
+                come |= fresh;
+            }
+            return NONE;
+        }
+
+        /** Puts THE SHORTEST into a row: how many STATES it has. Another row takes what is FAR by how many. */
+        int fillShortest(long goal, long[] fars, int[] row) {
+            int steps = fillFars(goal, fars);
             if (steps == NONE || steps >= row.length) {
                 return 0;
             }
             long open = init;
             for (int i = 0; i <= steps; i++) {
-                // none of these is nearer than that, or the way would be shorter
-                int state = Sets.lowest(open & comingTo(goal, steps - i));
+                int state = Sets.lowest(open & fars[steps - i]);
                 if (state == NONE) {
                     return 0;
                 }
@@ -1365,8 +1386,7 @@ public final class FencedStates {
         }
 
         int lowestAhead(int state, int frame) {
-            long one = 1L << state;
-            return Sets.lowest(statesWithin(frame) & machine.before(one) & ~one);
+            return Sets.lowest(statesWithin(frame) & machine.leadingTo(state) & ~(1L << state));
         }
 
         int widen(int state, int level, boolean counted) {
@@ -1763,7 +1783,7 @@ public final class FencedStates {
 
         private void takeTokens(byte[] bytes, int size) {
             int at = 0;
-            while (at < size) {
+            for (int n = 0; n < MOST_BYTES && at < size; n++) {
                 int one = bytes[at];
                 if (isSmall(one)) {
                     at = takeWord(bytes, at, size);

@@ -6,6 +6,7 @@ final class EdgeClaimsTest {
         claim();
         claimRefused();
         adopt();
+        aboveTheOthers();
         unclaim();
         loosen();
         loosenRefused();
@@ -120,6 +121,35 @@ final class EdgeClaimsTest {
         FencedStates z = fenced(3);
         z.aim(0);
         due.is("adopt in PHASE 0 again", z.adopt(), -1);
+    }
+
+    /** 16 CUBES of FRAME 1 that can't move, and two that do: these alone are THE FENCE. */
+    private static void aboveTheOthers() {
+        due.sentence(41, "CLAIMS are all CUBES of THE FENCE: how many.");
+        FencedStates x = Due.of("letters 6;next a a|f;bad a&!b&!c&!d&!e&!f;");
+        for (int n = 0; n < 16; n++) {
+            due.is("bar", x.bar(63, 33 + 2 * n, 1), n + 1);
+        }
+        due.is("bar", x.bar(63, 1, 1), 17);
+        due.is("bar", x.bar(63, 2, 1), 18);
+        due.is("step(500)", x.step(500), 5);
+        due.is("PHASE", x.is(2), 3);
+        due.is("cube(1, NONE, 0)", x.cube(1, -1, 0), 16);
+        due.is("fence(NONE, 0)", x.fence(-1, 0), 2);
+        due.is("fence(0, 1)", x.fence(0, 1), 1);
+        due.is("fence(1, 1)", x.fence(1, 1), 2);
+        due.is("fence(2, 1)", x.fence(2, 1), -2);
+        due.is("judged(1)", x.judged(1), 0);
+        due.is("judged(2)", x.judged(2), 2);
+        due.is("witness(2)", x.witness(2), 32);
+        due.is("inside(1)", x.inside(1), 62);
+        due.is("spare(1)", x.spare(1), 1);
+        due.is("fewest(1)", x.fewest(1), 1);
+        due.is("chosen(1)", x.chosen(1), 1);
+        due.is("adopt", x.adopt(), 2);
+        due.is("claimed(0, 1)", x.claimed(0, 1), 1);
+        due.is("claimed(1, 1)", x.claimed(1, 1), 2);
+        due.is("claimed(2, 1)", x.claimed(2, 1), -2);
     }
 
     private static void unclaim() {
@@ -461,6 +491,16 @@ final class EdgeClaimsTest {
             claims(x, rows[n]);
             due.is("chosen(0) of row " + n, x.chosen(0), chosen[n]);
             due.is("fewest(0) of row " + n, x.fewest(0), Integer.bitCount(chosen[n]));
+        }
+        // 1 and 2 are bad, 3 goes to 1: wherever it stands, it is needed
+        for (int first = 1; first <= 3; first++) {
+            FencedStates z = Due.of("letters 2;bad a^b;next b b&!a;");
+            for (int n = 0; n < 3; n++) {
+                z.claim(3, (first - 1 + n) % 3 + 1);
+            }
+            due.is("chosen(0)", z.chosen(0), 7);
+            due.is("fewest(0)", z.fewest(0), 3);
+            due.is("spare(0)", z.spare(0), 0);
         }
         FencedStates y = Due.of("bad a;");
         for (int n = 0; n < 12; n++) {

@@ -468,6 +468,16 @@ final class EdgeTextsTest {
         faulty("bad init;", 1, 4);
         faulty("bad xy;", 1, 4);
         faulty("Bad a;", 1, 0);
+        faulty("mad a;", 1, 0);
+        faulty("ban a;", 1, 0);
+        faulty("knit a;", 1, 0);
+        faulty("inis a;", 1, 0);
+        faulty("text a a;", 1, 0);
+        faulty("nexs a a;", 1, 0);
+        faulty("betters 3;", 1, 0);
+        faulty("letterz 3;", 1, 0);
+        faulty("letter 3;", 1, 0);
+        faulty("letterss 3;", 1, 0);
         faulty("bads a;", 1, 0);
         due.sentence(0, "2 a NUMBER that isn't one of those told.");
         faulty("letters 0;", 2, 8);
@@ -529,6 +539,9 @@ final class EdgeTextsTest {
             faulty("bad " + open + "a" + shut + ";", 6, 14);
             faulty("next a " + ten + "x" + shutTen + "&" + open, 6, 7 + 11 + shutTen.length() + 1 + 10);
         }
+        faulty("init !!!!!!!!!!a;", 0, -1);
+        faulty("init !!!!!!!!!!!a;", 6, 15);
+        faulty("init ((((((((((a))))))))));", 0, -1);
         // those that are shut are not open any more
         faulty("bad !!!!!!!!!!a&!!!!!!!!!!b|!!!!!!!!!!c;", 0, -1);
         faulty("bad (((((((((!a|!b&!c^(c))))))))));", 0, -1);

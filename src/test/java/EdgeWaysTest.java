@@ -115,6 +115,13 @@ final class EdgeWaysTest {
             due.is("doomed(" + n + ")", x.doomed(n), Math.min(64, n + 1));
         }
         due.is("doomed of the largest", x.doomed(Integer.MAX_VALUE), 64);
+        for (int letters = 1; letters <= 6; letters++) {
+            FencedStates y = Due.of("letters " + letters + ";bad !a;bad 1;");
+            due.is("doomed(0)", y.doomed(0), 1 << letters - 1);
+            due.is("doomed(1)", y.doomed(1), 1 << letters - 1);
+            y.aim(1);
+            due.is("doomed(0) of all", y.doomed(0), 1 << letters);
+        }
         due.sentence(34, "NONE for others (n below 0).");
         due.is("doomed(-1)", x.doomed(-1), -1);
         due.is("doomed(-2)", x.doomed(-2), -1);

@@ -1,3 +1,5 @@
+import java.lang.reflect.Constructor;
+import java.lang.reflect.Field;
 import java.lang.reflect.Method;
 import java.util.Random;
 
@@ -32,6 +34,42 @@ final class FloatsTest {
             double d = (double) random.nextInt(3000000) / (double) (1 + random.nextInt(256000));
             due.is("bits of " + d, (long) ofDouble.invoke(null, d), Double.doubleToLongBits(d));
         }
+        activities();
         due.end();
+    }
+
+    /** No run of calls comes to an ACTIVITY of exactly 1000, so that it is put there. */
+    private static void activities() throws Exception {
+        due.sentence(0, "BUMP is 1.5 times that; is an ACTIVITY above 1000, all ACTIVITIES and BUMP are 0.001 times that;"
+            + " the OBLIGATION is out.");
+        Class<?> kind = null;
+        for (Class<?> c : FencedStates.class.getDeclaredClasses()) {
+            kind = c.getSimpleName().equals("Activities") ? c : kind;
+        }
+        Constructor<?> made = kind.getDeclaredConstructor();
+        Field values = kind.getDeclaredField("values");
+        Field bump = kind.getDeclaredField("bump");
+        Method raise = kind.getDeclaredMethod("raise", int.class);
+        made.setAccessible(true);
+        values.setAccessible(true);
+        bump.setAccessible(true);
+        raise.setAccessible(true);
+        for (float by : new float[] {0.5f, 1f, Math.nextUp(1f), 1.0001f, 2f}) {
+            for (int letter = 0; letter < 6; letter++) {
+                Object x = made.newInstance();
+                float[] row = (float[]) values.get(x);
+                row[letter] = 999f;
+                row[(letter + 1) % 6] = 7f;
+                row[(letter + 2) % 6] = 1000f;
+                bump.setFloat(x, by);
+                raise.invoke(x, 1 << letter);
+                boolean above = 999f + by > 1000f;
+                float scale = above ? 0.001f : 1f;
+                due.is("it", Float.floatToIntBits(row[letter]), Float.floatToIntBits((999f + by) * scale));
+                due.is("another", Float.floatToIntBits(row[(letter + 1) % 6]), Float.floatToIntBits(7f * scale));
+                due.is("one of 1000", Float.floatToIntBits(row[(letter + 2) % 6]), Float.floatToIntBits(1000f * scale));
+                due.is("BUMP", Float.floatToIntBits(bump.getFloat(x)), Float.floatToIntBits(by * 1.5f * scale));
+            }
+        }
     }
 }

@@ -38,7 +38,7 @@ final class FloatsTest {
         due.end();
     }
 
-    /** No run of calls comes to an ACTIVITY of exactly 1000, so that it is put there. */
+    /** No run of calls is known that comes to an ACTIVITY of exactly 1000, so that it is put there. */
     private static void activities() throws Exception {
         due.sentence(0, "BUMP is 1.5 times that; is an ACTIVITY above 1000, all ACTIVITIES and BUMP are 0.001 times that;"
             + " the OBLIGATION is out.");
